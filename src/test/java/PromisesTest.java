@@ -573,6 +573,22 @@ public final class PromisesTest {
         y.replace(1, high);
         y.simulate(9);
         check.due("a lesser number above a greater", mix(9, 0) & mix(9, 1) & mix(9, 2), y.row(low >> 1));
+        y.undo();
+        y.replace(1, high + 1);
+        y.simulate(9);
+        check.due("above it turned", mix(9, 0) & ~(mix(9, 1) & mix(9, 2)), y.row(low >> 1));
+        InverterGraphs z = withInputs(4);
+        int[] ands = {z.and(2, 4), z.and(4, 6), z.and(6, 8)};
+        z.replace(1, ands[1]);
+        z.replace(2, ands[2] + 1);
+        z.simulate(9);
+        long lowest = mix(9, 0) & mix(9, 1);
+        check.due("the greatest number is the lowest one", lowest, z.row(ands[2] >> 1));
+        check.due("one above it", ~lowest & mix(9, 0), z.row(ands[1] >> 1));
+        check.due("one above both", ~lowest & mix(9, 0), z.row(ands[0] >> 1));
+        z.simulate(10);
+        lowest = mix(10, 0) & mix(10, 1);
+        check.due("the same, of another seed", ~lowest & mix(10, 0), z.row(ands[0] >> 1));
     }
 
     private static void row() {
