@@ -4,8 +4,20 @@ final class Check {
         long answer();
     }
 
+    private final String place;
+    private final boolean telling;
     private int wrong;
     private int looked;
+
+    Check() {
+        this("", true);
+    }
+
+    /** The place is told before each fault; one that tells nothing only counts. */
+    Check(String place, boolean telling) {
+        this.place = place;
+        this.telling = telling;
+    }
 
     void due(String what, long want, long got) {
         looked++;
@@ -52,13 +64,17 @@ final class Check {
 
     void tell(String fault) {
         wrong++;
-        if (wrong <= 50) {
-            System.out.println(fault);
+        if (telling && wrong <= 50) {
+            System.out.println(place + fault);
         }
     }
 
     int wrong() {
         return wrong;
+    }
+
+    int looked() {
+        return looked;
     }
 
     void end() {
