@@ -63,7 +63,8 @@ final class LaterPromiseSentences {
         the.holds("Promise 19", "How many: what = 0 numbers of nodes that were given,",
             LaterPromiseSentences::numbersGiven);
         the.holds("Promise 19", "1 inputs that are not gone,", LaterPromiseSentences::inputsNotGone);
-        the.holds("Promise 19", "2 outputs (with those that went into boxes),", LaterPromiseSentences::outputsWithBoxes);
+        the.holds("Promise 19", "2 outputs (with those that went into boxes),",
+            LaterPromiseSentences::outputsWithBoxes);
         the.holds("Promise 19", "3 latches,", LaterPromiseSentences::latches);
         the.holds("Promise 19", "4 changes that can be taken back,", LaterPromiseSentences::changesKept);
         the.holds("Promise 19", "5 the greatest level.", LaterPromiseSentences::greatestLevel);

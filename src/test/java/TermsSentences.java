@@ -56,7 +56,8 @@ final class TermsSentences {
         the.holds("Terms", "In the end outputs, latches and boxes get what stands for theirs.",
             TermsSentences::usersInTheEnd);
         the.holds("Terms", "REPLACING IS REFUSED when the literal's node is the node,", TermsSentences::byItself);
-        the.holds("Terms", "or stands above it: a node stands ABOVE its fanins, and above those that these stand above",
+        the.holds("Terms",
+            "or stands above it: a node stands ABOVE its fanins, and above those that these stand above",
             TermsSentences::byOneAbove);
         the.holds("Terms", "(latches and outlets stand above none).", TermsSentences::aboveNone);
     }
@@ -76,7 +77,8 @@ final class TermsSentences {
     }
 
     private static void changesAndThrows(Sentences the) {
-        the.holds("Terms", "CHANGES are calls of input(), and(), output(), latch(), next(), replace(), sweep() and box()",
+        the.holds("Terms",
+            "CHANGES are calls of input(), and(), output(), latch(), next(), replace(), sweep() and box()",
             TermsSentences::changes);
         the.holds("Terms", "that changed something;", TermsSentences::thatChangedSomething);
         the.holds("Terms", "the latest 30 can be taken back,", TermsSentences::thirtyCanBeTakenBack);
